@@ -1,0 +1,109 @@
+import java.nio.charset.StandardCharsets;
+
+/** Counts the answers that are not as due, and brings texts to the tape. */
+final class Checks {
+
+    private final String name;
+    private int wrong;
+    private int asked;
+
+    Checks(String name) {
+        this.name = name;
+    }
+
+    void due(String what, long got, long want) {
+        asked++;
+        if (got != want) {
+            wrong++;
+            System.out.println(name + ": " + what + " answered " + got + ", due is " + want);
+        }
+    }
+
+    void due(String what, boolean got, boolean want) {
+        due(what, got ? 1 : 0, want ? 1 : 0);
+    }
+
+    /** A call that is refused: its answer has been NONE or false, and its STATUS is told. */
+    void refused(String what, FairLines x, long got, int status) {
+        due(what, got, FairLines.NONE);
+        due(what + " status()", x.status(), status);
+    }
+
+    void refused(String what, FairLines x, boolean got, int status) {
+        due(what, got, false);
+        due(what + " status()", x.status(), status);
+    }
+
+    /** An answer with STATUS 0, which tells NONE from -1. */
+    void answered(String what, FairLines x, long got, long want) {
+        due(what, got, want);
+        due(what + " status()", x.status(), 0);
+    }
+
+    void fraction(String what, FairLines x, boolean got, long top, long bottom) {
+        due(what, got, true);
+        due(what + " status()", x.status(), 0);
+        due(what + " top()", x.top(), top);
+        due(what + " bottom()", x.bottom(), bottom);
+    }
+
+    void end() {
+        System.out.println(name + ": " + asked + " answers, " + wrong + " not as due");
+        if (wrong != 0) {
+            System.exit(1);
+        }
+    }
+
+    static int feed(FairLines x, String text) {
+        byte[] bytes = text.getBytes(StandardCharsets.ISO_8859_1);
+        int size = 0;
+        for (int at = 0; at < bytes.length; at += 20) {
+            int[] five = new int[5];
+            for (int i = 0; i < 20; i++) {
+                int sign = at + i < bytes.length ? bytes[at + i] & 255 : 0;
+                five[i / 4] = five[i / 4] << 8 | sign;
+            }
+            size = x.feed(five[0], five[1], five[2], five[3], five[4]);
+        }
+        return size;
+    }
+
+    static int book(FairLines x, String text) {
+        feed(x, text);
+        return x.book(text.length());
+    }
+
+    static int way(FairLines x, String text) {
+        feed(x, text);
+        return x.way(text.length());
+    }
+
+    static FairLines withBook(String text) {
+        FairLines x = new FairLines();
+        book(x, text);
+        return x;
+    }
+
+    static void fill(FairLines x, int tray, int sort, long... numbers) {
+        x.tray(tray, sort, numbers.length);
+        for (int place = 0; place < numbers.length; place++) {
+            x.write(tray, place, numbers[place]);
+        }
+    }
+
+    void bookFault(String text, int kind, int place) {
+        FairLines x = new FairLines();
+        String what = "book '" + text + "'";
+        refused(what, x, book(x, text), 9);
+        due(what + " fault(0)", x.fault(0), kind);
+        due(what + " fault(1)", x.fault(1), place);
+    }
+
+    void wayFault(String text, int kind, int place) {
+        FairLines x = new FairLines();
+        String what = "way '" + text + "'";
+        refused(what, x, way(x, text), 9);
+        due(what + " fault(0)", x.fault(0), kind);
+        due(what + " fault(1)", x.fault(1), place);
+    }
+}
