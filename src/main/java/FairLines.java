@@ -467,7 +467,7 @@ public final class FairLines {
         if (k < NONE) {
             return none(IMPOSSIBLE);
         }
-        if (k >= yard.plankMany) {
+        if (yard.plankMany == 0 || k >= yard.plankMany) {
             return none(NONE_SUCH);
         }
         return answer(k == NONE ? yard.plankWaste : yard.highestStripOf(k));
@@ -1055,6 +1055,15 @@ public final class FairLines {
             put(point, breadth);
         }
 
+        /** Ten bits hold a BREADTH, so one number holds those of a STATION. */
+        long packedStation(int station) {
+            long packed = 0;
+            for (int water = 0; water < waters; water++) {
+                packed = packed << 10 | at(8 * station + water);
+            }
+            return packed;
+        }
+
         boolean isKept(int point) {
             return (kept & bit(point)) != 0;
         }
@@ -1272,7 +1281,7 @@ public final class FairLines {
             }
         }
 
-        /** The two BENDS that meet at a PLACE differ by a sum in which each BREADTH has a weight. */
+        /** Two neighbouring BENDS differ by a sum in which each BREADTH has a weight. */
         private void narrowBy(int point, int other, int stride) {
             int weight = 1;
             if (point == other) {
@@ -2009,7 +2018,8 @@ public final class FairLines {
         static final int REST = 1;
         static final int RING = 2;
 
-        private final int[] history = new int[MOST_ROUNDS * POINT_ROOM];
+        /** The floor ahead of each ROUND, a STATION's BREADTHS in one number. */
+        private final long[] history = new long[MOST_ROUNDS * Sheet.MOST_STATIONS];
         private int end;
         private int ahead;
         private int done;
@@ -2042,31 +2052,28 @@ public final class FairLines {
         }
 
         private void note(Sheet sheet, int round) {
-            int base = round * POINT_ROOM;
-            for (int point = 0; point < POINT_ROOM; point++) {
-                int index = base + point;
+            for (int station = 0; station < Sheet.MOST_STATIONS; station++) {
+                int index = round * Sheet.MOST_STATIONS + station;
                 if (index >= 0 && index < history.length) {
-                    history[index] = sheet.hasPoint(point) ? sheet.at(point) : 0;
+                    history[index] = sheet.packedStation(station);
                 }
             }
         }
 
         private int findSame(Sheet sheet) {
             for (int round = 0; round < done; round++) {
-                if (isSame(sheet, round * POINT_ROOM)) {
+                if (isSame(sheet, round)) {
                     return round;
                 }
             }
             return NONE;
         }
 
-        private boolean isSame(Sheet sheet, int base) {
-            for (int point = 0; point < POINT_ROOM; point++) {
-                int index = base + point;
-                if (index < 0 || index >= history.length) {
-                    return false;
-                }
-                if (sheet.hasPoint(point) && history[index] != sheet.at(point)) {
+        private boolean isSame(Sheet sheet, int round) {
+            for (int station = 0; station < sheet.stations; station++) {
+                int index = round * Sheet.MOST_STATIONS + station;
+                if (index < 0 || index >= history.length
+                        || history[index] != sheet.packedStation(station)) {
                     return false;
                 }
             }

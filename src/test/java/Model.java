@@ -1168,7 +1168,7 @@ final class Model {
     int plank(int k) {
         return (int) call(() -> {
             need(k >= NONE, 1);
-            need(k < planksFound.size(), 6);
+            need(!planksFound.isEmpty() && k < planksFound.size(), 6);
             return k == NONE ? waste : planksFound.get(k);
         });
     }

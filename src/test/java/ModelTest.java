@@ -16,7 +16,7 @@ public final class ModelTest {
     }
 
     public static void main(String[] args) {
-        int runs = args.length > 0 ? Integer.parseInt(args[0]) : 400;
+        int runs = args.length > 0 ? Integer.parseInt(args[0]) : 250;
         long base = args.length > 1 ? Long.parseLong(args[1]) : 0;
         for (int run = 0; run < runs; run++) {
             new ModelTest(base + run).go(base + run);
@@ -143,6 +143,76 @@ public final class ModelTest {
         return maybeSpoilt(text);
     }
 
+    /** PARTS as they come, in which the FAULTS 3 to 6 are frequent. */
+    private String bookSoup() {
+        StringBuilder text = new StringBuilder();
+        int w = inside(3, 6);
+        int odds = random.nextInt(40) + 2;
+        for (int many = inside(1, 14); many > 0; many--) {
+            boolean isOdd = random.nextInt(odds) == 0;
+            switch (isOdd ? random.nextInt(8) : random.nextInt(3)) {
+                case 0, 1 -> {
+                    text.append("row");
+                    for (int i = isOdd ? inside(0, 8) : w; i > 0; i--) {
+                        text.append(' ').append(random.nextInt(isOdd ? 1200 : 100));
+                    }
+                }
+                case 2 -> text.append("keep ").append(random.nextInt(isOdd ? 9 : 2)).append(' ')
+                        .append(random.nextInt(isOdd ? 7 : 3));
+                case 3 -> text.append("space ").append(random.nextInt(3));
+                case 4 -> text.append("rise ").append(random.nextInt(3));
+                case 5 -> text.append("eye ").append(random.nextInt(1020));
+                case 6 -> text.append("step ").append(random.nextInt(110));
+                default -> {
+                    text.append("order");
+                    for (int i = inside(0, 8); i > 0; i--) {
+                        text.append(' ').append(viewName());
+                    }
+                }
+            }
+            text.append(';');
+        }
+        return text.toString();
+    }
+
+    /** STEPS as they come: many of them, deep ones, NUMBERS that can't be. */
+    private String waySoup() {
+        StringBuilder text = new StringBuilder();
+        int odds = random.nextInt(60) + 2;
+        int depth = 0;
+        for (int many = inside(1, 40); many > 0 && text.length() < 280; many--) {
+            boolean isOdd = random.nextInt(odds) == 0;
+            switch (random.nextInt(8)) {
+                case 0 -> text.append("ease ").append(isOdd ? 60 + random.nextInt(2) : 1);
+                case 1 -> text.append("move 1 1 ").append(random.nextInt(isOdd ? 1100 : 90));
+                case 2 -> text.append("keep 1 ").append(random.nextInt(isOdd ? 8 : 6));
+                case 3 -> text.append("free ").append(random.nextInt(isOdd ? 10 : 8)).append(" 1");
+                case 4 -> {
+                    text.append("until ").append(isOdd ? random.nextInt(12) : 9);
+                    depth++;
+                }
+                case 5 -> {
+                    text.append("when");
+                    depth++;
+                }
+                case 6 -> {
+                    text.append("bend ").append(viewName()).append(' ')
+                            .append(random.nextInt(isOdd ? 15 : 8)).append(" at 0 ")
+                            .append(random.nextInt(isOdd ? 9 : 4) + (isOdd ? 0 : 1));
+                }
+                default -> {
+                    text.append(depth > 0 || isOdd ? "end" : "ease 2");
+                    depth -= depth > 0 ? 1 : 0;
+                }
+            }
+            text.append(';');
+        }
+        while (depth-- > 0 && random.nextInt(20) != 0 && text.length() < 296) {
+            text.append("end;");
+        }
+        return text.toString();
+    }
+
     private String setting(String word, int low, int high) {
         if (random.nextInt(2) == 0) {
             return "";
@@ -258,7 +328,7 @@ public final class ModelTest {
 
     private void rareCall() {
         switch (random.nextInt(12)) {
-            case 0 -> book(bookText());
+            case 0 -> book(random.nextInt(3) == 0 ? bookSoup() : bookText());
             case 1 -> same("mark", x.mark(), m.mark());
             case 2 -> {
                 same("back", x.back(), m.back());
@@ -266,12 +336,17 @@ public final class ModelTest {
                 waters = x.told(1);
                 m.told(1);
             }
-            case 3, 4, 5 -> way(wayText());
+            case 3, 4, 5 -> way(random.nextInt(3) == 0 ? waySoup() : wayText());
             case 6, 7 -> same("run", x.run(), m.run());
             case 8 -> {
                 int by = inside(1, 3);
-                int many = inside(1, by == 3 ? 3 : 4);
+                int many = inside(1, by == 1 ? 5 : by == 2 ? 4 : 3);
                 fillPoints(many);
+                if (random.nextInt(3) != 0) {
+                    x.rounds(60);
+                    m.rounds(60);
+                    shake(many);
+                }
                 leastCalls(0, many, by);
             }
             case 9 -> slipCalls();
@@ -381,6 +456,16 @@ public final class ModelTest {
         for (int i = 0; i < many; i++) {
             int p = random.nextInt(3) == 0 ? somePoint() : start + i * (random.nextInt(3) == 0 ? 1 : 8);
             same("write " + p, x.write(0, i, p), m.write(0, i, p));
+        }
+    }
+
+    /** Moves some POINTS that are in the TRAY, so that small moves back may be enough. */
+    private void shake(int many) {
+        for (int i = 0; i < many; i++) {
+            int p = (int) x.read(0, i);
+            m.read(0, i);
+            int v = Math.max(0, x.point(p, 0) + inside(-3, 3));
+            same("move(" + p + ", " + v + ")", x.move(p, v), m.move(p, v));
         }
     }
 
