@@ -131,6 +131,9 @@ public final class BoatsTest {
         FairLines x = Checks.withBook("row 10 20 30;row 100 200 300;");
         C.answered("no HAND", x, x.apart(5, 0, 40, 0), 0);
         C.answered("no HAND: the first POINT", x, x.apart(5, 0, 40, 1), 0);
+        FairLines low = Checks.withBook("row 0 0 0;");
+        C.answered("no HAND at 0", low, low.apart(5, 0, 40, 0), 0);
+        C.answered("no HAND at 0", low, low.apart(5, 0, 40, 1), 0);
         // By HAND 20 BOAT 0 has 989, 1057 by 41: 5, 32; BOAT 1 has 2199, 7360 by 41: 26, 21.
         C.answered("5 less 20", x, x.boat(0, 20, 0, 0), 0);
         C.answered("26 less 20", x, x.boat(0, 20, 1, 0), 16);

@@ -107,6 +107,13 @@ public final class BookTest {
         C.bookFault("row 1 2 3\u0000;", 1, 9);
         C.bookFault("row 1 2 3;\u00e9", 1, 10);
         C.bookFault("order sl ants;", 2, 6);
+        C.bookFault("az", 2, 0);
+        C.bookFault("z", 2, 0);
+        C.bookFault("{", 1, 0);
+        C.bookFault("`", 1, 0);
+        C.bookFault("9", 2, 0);
+        C.bookFault("/", 1, 0);
+        C.bookFault(":", 1, 0);
     }
 
     private static void faults() {

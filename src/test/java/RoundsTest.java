@@ -14,6 +14,7 @@ public final class RoundsTest {
         leastRefused();
         slips();
         slipsWhenFair();
+        slipsFromAllSides();
         C.end();
     }
 
@@ -247,6 +248,37 @@ public final class RoundsTest {
         C.answered("120 to 210", front, front.slip(2, 1), 210);
     }
 
+    /** On 4 by 4 a POINT that is off is seen from all sides, so it alone can be the slip. */
+    private static void slipsFromAllSides() {
+        String row = "row 100 100 100 100;";
+        int[] points = {0, 9, 18, 27, 3, 10, 17, 24, 1, 16};
+        for (int point : points) {
+            FairLines x = Checks.withBook(row + row + row + row + "eye 0;");
+            C.answered("flat", x, x.slips(), 0);
+            x.move(point, 150);
+            C.answered("one", x, x.slips(), 1);
+            C.answered("its POINT", x, x.slip(0, 0), point);
+            C.answered("its BREADTH", x, x.slip(0, 1), 100);
+            x.move(point, 103);
+            Checks.fill(x, 0, 2, 2, point, 19);
+            C.answered("LEAST", x, x.least(0, 3, 3), 3);
+            C.answered("of it alone", x, x.leastMove(1), -3);
+            C.answered("not of others", x, x.leastMove(0), 0);
+            C.answered("not of others", x, x.leastMove(2), 0);
+        }
+        // BENDS differ by 20 along STATION 0 and WATER 0, and by as much and 2 along the slant.
+        FairLines x = Checks.withBook("row 120 100 100 100;" + row + row + "row 100 100 100 110;"
+                + "eye 20;");
+        Checks.fill(x, 0, 2, 0);
+        C.answered("fair already", x, x.least(0, 1, 3), 0);
+        x.move(27, 90);
+        C.answered("by the slant alone", x, x.unfairAll(), 1);
+        C.refused("10 too much", x, x.least(0, 1, 3), 6);
+        x.move(27, 98);
+        C.answered("2 too much", x, x.least(0, 1, 3), 2);
+        C.answered("down", x, x.leastMove(0), -2);
+    }
+
     /** No LINE has four PLACES, so all is fair, whatever stands there. */
     private static void slipsWhenFair() {
         FairLines x = Checks.withBook("row 123 0 0;");
@@ -259,5 +291,9 @@ public final class RoundsTest {
         C.answered("the next POINT", x, x.slip(29, 0), 1);
         C.answered("1 to 9", x, x.slip(29, 1), 1);
         C.answered("900", x, x.slip(55, 1), 900);
+        FairLines two = Checks.withBook("row 200 900 999;");
+        C.answered("27 and 020, 27 and 090, 27", two, two.slips(), 28 + 28 + 27);
+        C.answered("000", two, two.slip(0, 1), 0);
+        C.answered("020", two, two.slip(1, 1), 20);
     }
 }

@@ -92,6 +92,15 @@ public final class ShapeTest {
         C.answered("2 and 2 and 0", x, x.plank(-1), 4);
         x.move(9, 3);
         C.answered("as it was then", x, x.plank(-1), 4);
+        // WIDTHS 12 5 9 9 3, 9 3 3 8 12, 3 8 10 5 12: {0} {1 2 3} {4} and {0 1} {2} {3 4} waste 30.
+        FairLines tie = Checks.withBook("row 0 12 17 26 35 35;row 0 9 9 9 17 29;"
+                + "row 0 0 8 18 23 35;rise 3;");
+        C.answered("three", tie, tie.planks(24), 3);
+        C.answered("WASTE", tie, tie.plank(-1), 30);
+        int[] due = {0, 3, 4};
+        for (int k = 0; k < due.length; k++) {
+            C.answered("the first by the lowest PLANK", tie, tie.plank(k), due[k]);
+        }
     }
 
     private static void planksRefused() {
@@ -99,6 +108,8 @@ public final class ShapeTest {
         C.refused("tree 0", x, x.planks(0), 1);
         C.refused("tree 10000", x, x.planks(10000), 1);
         C.answered("tree 9999", x, x.planks(9999), 1);
+        FairLines thin = Checks.withBook("row 7 7 7;rise 1;");
+        C.answered("tree 1", thin, thin.planks(1), 2);
         FairLines none = new FairLines();
         C.refused("no STRIP", none, none.planks(9999), 6);
         C.refused("no STRIP, tree 0", none, none.planks(0), 1);
@@ -146,6 +157,8 @@ public final class ShapeTest {
         C.fraction("the middle, between STRIPS, KEPT", x, x.carried(2, 9, 4), -30, 1);
         C.fraction("the middle, on top", x, x.carried(1, 9, 4), -15, 1);
         C.fraction("above the WATER", x, x.carried(1, 10, 999), 0, 1);
+        C.fraction("to 0", x, x.carried(1, 0, 0), -15, 2);
+        C.fraction("to 999", x, x.carried(1, 8, 999), 14985, 1);
         C.fraction("as it is", x, x.carried(1, 9, 5), 0, 1);
         C.due("nothing moves", x.given(0), 0);
         C.refused("WATER 0", x, x.carried(0, 9, 4), 1);

@@ -71,8 +71,10 @@ public final class TraysTest {
         C.refused("no place in it", x, x.read(0, 0), 3);
         C.due("tray of sixty", x.tray(3, 3, 60), true);
         C.due("write", x.write(3, 59, 5), true);
+        C.due("write", x.write(3, 0, 5), true);
         C.answered("read", x, x.read(3, 59), 5);
         C.due("again", x.tray(3, 3, 60), true);
+        C.answered("0s again", x, x.read(3, 0), 0);
         C.answered("0s again", x, x.read(3, 59), 0);
         C.due("shorter", x.tray(3, 3, 2), true);
         C.refused("place 2", x, x.read(3, 2), 3);

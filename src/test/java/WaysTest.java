@@ -178,6 +178,10 @@ public final class WaysTest {
         C.due("what follows is done", x.point(34, 2), 1);
         Checks.way(x, "when;until 2;move 2 2 28;end;keep 0 1;end;keep 0 2;");
         C.answered("fair within", x, x.run(), 5);
+        FairLines one = Checks.withBook("row 10 0 0;row 10 0 0;row 10 0 0;row 13 0 0;eye 0;");
+        Checks.way(one, "when;move 3 0 0;end;until 2;keep 2 2;end;");
+        C.answered("one PLACE is enough", one, one.run(), 1 + 1 + 1 + 2);
+        C.due("moved to 0", one.point(24, 0), 0);
         C.due("what follows within is done", x.point(1, 2), 1);
         C.due("what follows is done", x.point(2, 2), 1);
     }
