@@ -1171,8 +1171,32 @@ public final class FairLines {
             return at(point - stride) + at(point + stride) - 2 * at(point);
         }
 
+        /** By how much BEND differs from that of the PLACE ahead. */
+        private int jumpAt(int point, int stride) {
+            if (stride < 0 || point - 2 * stride < 0 || point + stride >= floor.length) {
+                return 0;
+            }
+            return floor[point + stride] - floor[point - 2 * stride]
+                    + 3 * (floor[point - stride] - floor[point]);
+        }
+
         private boolean isUnfair(int point, int stride) {
-            return Math.abs(bendAt(point, stride) - bendAt(point - stride, stride)) > eye;
+            return Math.abs(jumpAt(point, stride)) > eye;
+        }
+
+        /** Moves a POINT towards its WISH: whether it did. */
+        boolean nudge(int point, int stride) {
+            if (stride < 0 || point - 2 * stride < 0 || point + 2 * stride >= floor.length) {
+                return false;
+            }
+            int near = floor[point - stride] + floor[point + stride];
+            int far = floor[point - 2 * stride] + floor[point + 2 * stride];
+            int now = floor[point];
+            int wish = Math.floorDiv(4 * near - far + 3, 6);
+            int moved = Math.max(now - step, Math.min(now + step, wish));
+            moved = Math.max(0, Math.min(MOST_BREADTH, moved));
+            floor[point] = moved;
+            return moved != now;
         }
 
         int unfairOn(int view, int line) {
@@ -1192,7 +1216,8 @@ public final class FairLines {
             int many = 0;
             for (int view = 0; view <= 2; view++) {
                 int stride = strideOf(view);
-                for (int line = 0; line < linesOf(view); line++) {
+                int lines = linesOf(view);
+                for (int line = 0; line < lines; line++) {
                     int places = placesOf(view, line);
                     int point = firstOf(view, line) + 2 * stride;
                     for (int place = 2; place < places - 1; place++) {
@@ -1291,7 +1316,7 @@ public final class FairLines {
             } else if (point == other - 2 * stride) {
                 weight = -1;
             }
-            int rest = bendAt(other, stride) - bendAt(other - stride, stride) - weight * at(point);
+            int rest = jumpAt(other, stride) - weight * at(point);
             if (weight < 0) {
                 weight = -weight;
                 rest = -rest;
@@ -2018,8 +2043,8 @@ public final class FairLines {
         static final int REST = 1;
         static final int RING = 2;
 
-        /** The floor ahead of each ROUND, a STATION's BREADTHS in one number. */
-        private final long[] history = new long[MOST_ROUNDS * Sheet.MOST_STATIONS];
+        /** The floor ahead of each ROUND and behind the last, a STATION in one number. */
+        private final long[] history = new long[(MOST_ROUNDS + 1) * Sheet.MOST_STATIONS];
         private int end;
         private int ahead;
         private int done;
@@ -2031,14 +2056,15 @@ public final class FairLines {
             end = 0;
             ahead = NONE;
             done = 0;
+            note(sheet);
             for (int turn = 0; turn < most && turn < MOST_ROUNDS && end == 0; turn++) {
-                note(sheet, turn);
                 boolean hasMoved = sweep(sheet);
                 done++;
+                note(sheet);
                 if (!hasMoved) {
                     end = REST;
                 } else {
-                    ahead = findSame(sheet);
+                    ahead = findSame();
                     end = ahead == NONE ? 0 : RING;
                 }
             }
@@ -2051,31 +2077,34 @@ public final class FairLines {
             toldWithin = done - ahead;
         }
 
-        private void note(Sheet sheet, int round) {
+        private void note(Sheet sheet) {
             for (int station = 0; station < Sheet.MOST_STATIONS; station++) {
-                int index = round * Sheet.MOST_STATIONS + station;
+                int index = done * Sheet.MOST_STATIONS + station;
                 if (index >= 0 && index < history.length) {
-                    history[index] = sheet.packedStation(station);
+                    history[index] = sheet.hasStation(station) ? sheet.packedStation(station) : 0;
                 }
             }
         }
 
-        private int findSame(Sheet sheet) {
+        private int findSame() {
             for (int round = 0; round < done; round++) {
-                if (isSame(sheet, round)) {
+                if (isSame(round)) {
                     return round;
                 }
             }
             return NONE;
         }
 
-        private boolean isSame(Sheet sheet, int round) {
-            for (int station = 0; station < sheet.stations; station++) {
-                int index = round * Sheet.MOST_STATIONS + station;
-                if (index < 0 || index >= history.length
-                        || history[index] != sheet.packedStation(station)) {
+        private boolean isSame(int round) {
+            int then = round * Sheet.MOST_STATIONS;
+            int now = done * Sheet.MOST_STATIONS;
+            for (int station = 0; station < Sheet.MOST_STATIONS; station++) {
+                if (then < 0 || now < 0 || then >= history.length || now >= history.length
+                        || history[then] != history[now]) {
                     return false;
                 }
+                then++;
+                now++;
             }
             return true;
         }
@@ -2084,7 +2113,8 @@ public final class FairLines {
             boolean hasMoved = false;
             for (int k = 0; k < sheet.views && k < sheet.order.length; k++) {
                 int view = sheet.order[k];
-                for (int line = 0; line < sheet.linesOf(view); line++) {
+                int lines = sheet.linesOf(view);
+                for (int line = 0; line < lines; line++) {
                     if (sweepLine(sheet, view, line)) {
                         hasMoved = true;
                     }
@@ -2097,24 +2127,14 @@ public final class FairLines {
             boolean hasMoved = false;
             int stride = sheet.strideOf(view);
             int places = sheet.placesOf(view, line);
+            int point = sheet.pointAt(view, line, 2);
             for (int place = 2; place < places - 2; place++) {
-                int point = sheet.pointAt(view, line, place);
-                if (!sheet.isKept(point) && nudge(sheet, point, stride)) {
+                if (!sheet.isKept(point) && sheet.nudge(point, stride)) {
                     hasMoved = true;
                 }
+                point += stride;
             }
             return hasMoved;
-        }
-
-        private boolean nudge(Sheet sheet, int point, int stride) {
-            int near = sheet.at(point - stride) + sheet.at(point + stride);
-            int far = sheet.at(point - 2 * stride) + sheet.at(point + 2 * stride);
-            int wish = Math.floorDiv(4 * near - far + 3, 6);
-            int now = sheet.at(point);
-            int moved = now + Math.max(-sheet.step, Math.min(sheet.step, wish - now));
-            moved = Math.max(0, Math.min(MOST_BREADTH, moved));
-            sheet.put(point, moved);
-            return moved != now;
         }
     }
 
