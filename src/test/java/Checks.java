@@ -1,9 +1,16 @@
 import java.nio.charset.StandardCharsets;
+import java.util.function.Supplier;
 
 /** Counts the answers that are not as due, and brings texts to the tape. */
 final class Checks {
 
+    /** A call on an object with one number in it; a boolean is told by is(). */
+    interface Call {
+        long on(FairLines x, int number);
+    }
+
     private final String name;
+    private String words = "";
     private int wrong;
     private int asked;
 
@@ -11,11 +18,17 @@ final class Checks {
         this.name = name;
     }
 
+    /** What the document says, in its words, to all answers that are asked for from here on. */
+    void sentence(String said) {
+        words = " '" + said + "',";
+    }
+
     void due(String what, long got, long want) {
         asked++;
         if (got != want) {
             wrong++;
-            System.out.println(name + ": " + what + " answered " + got + ", due is " + want);
+            System.out.println(name + ":" + words + " " + what + " answered " + got + ", due is "
+                    + want);
         }
     }
 
@@ -45,6 +58,37 @@ final class Checks {
         due(what + " status()", x.status(), 0);
         due(what + " top()", x.top(), top);
         due(what + " bottom()", x.bottom(), bottom);
+    }
+
+    static long is(boolean answer) {
+        return answer ? 1 : FairLines.NONE;
+    }
+
+    /** One number on an object of its own, whose STATUS is another one ahead of the call. */
+    void status(String what, Supplier<FairLines> made, Call call, int number, int status) {
+        FairLines x = made.get();
+        x.told(status == 0 ? -1 : 0);
+        long got = call.on(x, number);
+        String which = what + " with " + number;
+        due(which + " status()", x.status(), status);
+        if (status != 0) {
+            due(which, got, FairLines.NONE);
+        }
+    }
+
+    /** The least and the greatest number do, and what lies beyond them has a STATUS. */
+    void limits(String what, Supplier<FairLines> made, int low, int high, int below, int above,
+            Call call) {
+        status(what, made, call, Integer.MIN_VALUE, below);
+        status(what, made, call, low - 1, below);
+        status(what, made, call, low, 0);
+        status(what, made, call, high, 0);
+        status(what, made, call, high + 1, above);
+        status(what, made, call, Integer.MAX_VALUE, above);
+    }
+
+    void limits(String what, Supplier<FairLines> made, int low, int high, Call call) {
+        limits(what, made, low, high, 1, 1, call);
     }
 
     void end() {
@@ -82,6 +126,20 @@ final class Checks {
         FairLines x = new FairLines();
         book(x, text);
         return x;
+    }
+
+    /** The text of rows in which one BREADTH stands everywhere. */
+    static String flat(int stations, int waters, int breadth) {
+        return ("row" + (" " + breadth).repeat(waters) + ";").repeat(stations);
+    }
+
+    /** WATER 0 of some STATIONS, the others 0: with three WATERS no other LINE can be UNFAIR. */
+    static FairLines water(String more, int... breadths) {
+        StringBuilder text = new StringBuilder();
+        for (int breadth : breadths) {
+            text.append("row ").append(breadth).append(" 0 0;");
+        }
+        return withBook(text + more);
     }
 
     static void fill(FairLines x, int tray, int sort, long... numbers) {

@@ -18,17 +18,8 @@ public final class RoundsTest {
         C.end();
     }
 
-    /** WATER 0 of five STATIONS as told, the others 0: one PLACE alone has two on either side. */
-    private static FairLines five(String more, int... breadths) {
-        StringBuilder text = new StringBuilder();
-        for (int breadth : breadths) {
-            text.append("row ").append(breadth).append(" 0 0;");
-        }
-        return Checks.withBook(text + more);
-    }
-
     private static void rest() {
-        FairLines x = five("step 4;", 0, 0, 10, 0, 0);
+        FairLines x = Checks.water("step 4;", 0, 0, 10, 0, 0);
         C.refused("ended ahead of any", x, x.ended(0), 6);
         C.refused("what 3 ahead of any", x, x.ended(3), 1);
         C.refused("no ROUND", x, x.rounds(0), 1);
@@ -48,41 +39,41 @@ public final class RoundsTest {
         FairLines none = new FairLines();
         C.answered("no POINTS", none, none.rounds(60), 1);
         C.answered("REST", none, none.ended(0), 1);
-        FairLines last = five("step 4;", 0, 0, 8, 0, 0);
+        FairLines last = Checks.water("step 4;", 0, 0, 8, 0, 0);
         C.answered("the last one moves nothing", last, last.rounds(3), 3);
         C.answered("REST", last, last.ended(0), 1);
     }
 
     private static void wishes() {
-        FairLines up = five("step 99;", 0, 10, 0, 9, 0);
+        FairLines up = Checks.water("step 99;", 0, 10, 0, 9, 0);
         up.rounds(1);
         C.due("76 and 3 by 6, rounded down", up.point(16, 0), 13);
-        FairLines half = five("step 99;", 0, 3, 0, 0, 3);
+        FairLines half = Checks.water("step 99;", 0, 3, 0, 0, 3);
         half.rounds(1);
         C.due("9 and 3 by 6", half.point(16, 0), 2);
-        FairLines less = five("step 99;", 0, 3, 0, 0, 4);
+        FairLines less = Checks.water("step 99;", 0, 3, 0, 0, 4);
         less.rounds(1);
         C.due("8 and 3 by 6, rounded down", less.point(16, 0), 1);
-        FairLines low = five("step 99;", 500, 0, 40, 0, 500);
+        FairLines low = Checks.water("step 99;", 500, 0, 40, 0, 500);
         low.rounds(1);
         C.due("not below 0", low.point(16, 0), 0);
-        FairLines high = five("step 99;", 0, 999, 950, 999, 0);
+        FairLines high = Checks.water("step 99;", 0, 999, 950, 999, 0);
         high.rounds(1);
         C.due("not above 999", high.point(16, 0), 999);
-        FairLines kept = five("keep 2 0;", 0, 10, 0, 9, 0);
+        FairLines kept = Checks.water("keep 2 0;", 0, 10, 0, 9, 0);
         C.answered("KEPT", kept, kept.rounds(5), 1);
         C.due("it stays", kept.point(16, 0), 0);
-        FairLines not = five("order stations slants;", 0, 10, 0, 9, 0);
+        FairLines not = Checks.water("order stations slants;", 0, 10, 0, 9, 0);
         C.answered("WATERS are not in ORDER", not, not.rounds(5), 1);
     }
 
     /** Six STATIONS: the second mover sees where the first one has gone. */
     private static void places() {
-        FairLines x = five("step 99;", 0, 0, 60, 0, 0, 0);
+        FairLines x = Checks.water("step 99;", 0, 0, 60, 0, 0, 0);
         x.rounds(1);
         C.due("PLACE 2", x.point(16, 0), 0);
         C.due("PLACE 3 behind it", x.point(24, 0), 0);
-        FairLines y = five("step 99;", 0, 0, 0, 60, 0, 0);
+        FairLines y = Checks.water("step 99;", 0, 0, 0, 60, 0, 0);
         y.rounds(1);
         C.due("PLACE 2: 240 and 3 by 6", y.point(16, 0), 40);
         C.due("PLACE 3: 160 and 3 by 6", y.point(24, 0), 27);
@@ -148,7 +139,7 @@ public final class RoundsTest {
 
     /** With four STATIONS and three WATERS each WATER has one PLACE to be looked at. */
     private static void least() {
-        FairLines x = five("eye 0;", 10, 10, 10, 13);
+        FairLines x = Checks.water("eye 0;", 10, 10, 10, 13);
         Checks.fill(x, 0, 0, 8, 16, 24);
         C.refused("leastMove ahead of any", x, x.leastMove(0), 6);
         C.answered("by one of two", x, x.least(0, 2, 1), 1);
@@ -174,28 +165,28 @@ public final class RoundsTest {
 
     private static void leastTies() {
         // -1 and 27 less 30 and 2 are -2: (-1, 1) or (0, 2), and 0 lets no more than 1 off.
-        FairLines x = five("eye 0;", 1, 9, 10, 2);
+        FairLines x = Checks.water("eye 0;", 1, 9, 10, 2);
         Checks.fill(x, 0, 1, 0, 24);
         C.answered("the fewest moved", x, x.least(0, 2, 2), 2);
         C.answered("the first stays", x, x.leastMove(0), 0);
         C.answered("the second moves", x, x.leastMove(1), 2);
-        FairLines y = five("eye 0;", 10, 10, 10, 13);
+        FairLines y = Checks.water("eye 0;", 10, 10, 10, 13);
         Checks.fill(y, 0, 1, 16, 8);
         C.answered("by one of two, the other way", y, y.least(0, 2, 3), 1);
         C.answered("0 is ahead of 1", y, y.leastMove(0), 0);
         C.answered("-1", y, y.leastMove(1), -1);
         C.due("status tells it", y.status(), 0);
-        FairLines high = five("eye 0;", 999, 999, 999, 996);
+        FairLines high = Checks.water("eye 0;", 999, 999, 999, 996);
         Checks.fill(high, 0, 1, 24, 8, 16);
         C.answered("not above 999", high, high.least(0, 3, 3), 1);
         C.answered("the last goes down", high, high.leastMove(2), -1);
-        FairLines eye = five("eye 2;", 10, 10, 10, 14);
+        FairLines eye = Checks.water("eye 2;", 10, 10, 10, 14);
         Checks.fill(eye, 0, 1, 24);
         C.answered("so that EYE is just enough", eye, eye.least(0, 1, 3), 2);
     }
 
     private static void leastRefused() {
-        FairLines x = five("eye 0;keep 1 0;", 10, 10, 10, 13);
+        FairLines x = Checks.water("eye 0;keep 1 0;", 10, 10, 10, 13);
         Checks.fill(x, 0, 3, 24, 16, 0, 24, 8, 3);
         C.refused("no TRAY", x, x.least(4, 1, 1), 1);
         C.refused("none", x, x.least(0, 0, 1), 1);
@@ -222,7 +213,7 @@ public final class RoundsTest {
 
     private static void slips() {
         // -12 and 36 less 36 and 21 are 9: to be 0 by one POINT alone.
-        FairLines x = five("eye 0;", 12, 12, 12, 21);
+        FairLines x = Checks.water("eye 0;", 12, 12, 12, 21);
         int[][] due = {{0, 21}, {16, 15}, {24, 12}};
         C.answered("slips", x, x.slips(), due.length);
         for (int k = 0; k < due.length; k++) {
@@ -239,9 +230,9 @@ public final class RoundsTest {
         C.answered("the second now", x, x.slip(1, 0), 24);
         x.move(25, 1);
         C.answered("two WATERS are not fair", x, x.slips(), 0);
-        FairLines far = five("eye 0;", 210, 12, 12, 12);
+        FairLines far = Checks.water("eye 0;", 210, 12, 12, 12);
         C.answered("first and last figure changed about is none", far, far.slips(), 0);
-        FairLines front = five("eye 0;", 210, 120, 120, 120);
+        FairLines front = Checks.water("eye 0;", 210, 120, 120, 120);
         C.answered("the first two", front, front.slips(), 3);
         C.answered("210 to 120", front, front.slip(0, 1), 120);
         C.answered("120 to 150", front, front.slip(1, 1), 150);
