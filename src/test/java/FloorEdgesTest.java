@@ -8,6 +8,7 @@ public final class FloorEdgesTest {
 
     public static void main(String[] args) {
         cutToItsSort();
+        oneTrayAlone();
         pouredAsTheyWere();
         slantsOfAllShapes();
         eye();
@@ -16,6 +17,7 @@ public final class FloorEdgesTest {
         leastAndSlipsOfBumps();
         leastBySlants();
         slipsBySlants();
+        lesserBook();
         twoOnEitherSide();
         step();
         wishAtTheEnds();
@@ -49,6 +51,30 @@ public final class FloorEdgesTest {
             C.answered("write", x, Checks.is(x.write(1, 0, pair[0])), 1);
             x.read(1, 1);
             C.answered("sort " + sort + ": " + pair[0], x, x.read(1, 0), pair[1]);
+        }
+    }
+
+    private static void oneTrayAlone() {
+        C.sentence("A TRAY is a row of so many 0s");
+        for (int tray = 0; tray < 4; tray++) {
+            for (int many : new int[] {0, 1, 59, 60}) {
+                FairLines x = new FairLines();
+                for (int other = 0; other < 4; other++) {
+                    x.tray(other, 2, 60);
+                    for (int place = 0; place < 60; place++) {
+                        x.write(other, place, 100 * other + place + 1);
+                    }
+                }
+                x.tray(tray, 3, many);
+                for (int other = 0; other < 4; other++) {
+                    for (int place = 0; place < 60; place++) {
+                        boolean is = other != tray || place < many;
+                        long due = other == tray ? 0 : 100 * other + place + 1;
+                        C.due("read", x.read(other, place), is ? due : -1);
+                        C.due("read's status()", x.status(), is ? 0 : 3);
+                    }
+                }
+            }
         }
     }
 
@@ -306,6 +332,45 @@ public final class FloorEdgesTest {
                 C.answered("POINT " + point, x, x.slip(first + k, 1), due.get(k));
             }
             C.due("no more", x.slip(first + due.size(), 0) != point, true);
+        }
+    }
+
+    /** What stood where the new BOOK has no POINT bears on nothing any more. */
+    private static void lesserBook() {
+        C.sentence("A BOOK that is taken is there in place of that ahead");
+        String uneven = "row 0 999 0 999 0 999;row 999 0 999 0 999 0;";
+        int[][] shapes = {{1, 3}, {2, 6}, {3, 4}, {4, 4}, {5, 5}, {7, 6}, {8, 5}, {0, 0}};
+        for (int[] shape : shapes) {
+            FairLines x = Checks.withBook(uneven.repeat(4) + "keep 7 5;keep 4 2;");
+            x.rounds(1);
+            x.mark();
+            Checks.book(x, Checks.flat(shape[0], shape[1], 50) + "eye 0;step 99;");
+            FairLines plain = Checks.withBook(Checks.flat(shape[0], shape[1], 50) + "eye 0;step 99;");
+            C.answered("nothing is UNFAIR", x, x.unfairAll(), 0);
+            C.refused("nothing is UNFAIR", x, x.where(0, 0), 6);
+            C.answered("nothing moves", x, x.rounds(60), 1);
+            C.answered("REST", x, x.ended(0), 1);
+            C.answered("SLIPS", x, x.slips(), plain.slips());
+            for (int what = 0; what < 3; what++) {
+                C.answered("nothing differs from the BOOK", x, x.given(what), 0);
+            }
+            C.due("PLANKS", x.planks(99), plain.planks(99));
+            C.due("WASTE", x.plank(-1), plain.plank(-1));
+            C.due("APART", x.apart(5, 9, 40, 0), plain.apart(5, 9, 40, 0));
+            C.due("VOLUME", x.volume(2), plain.volume(2));
+            C.due("its top", x.top(), plain.top());
+            C.answered("back", x, x.back(), 0);
+            C.due("KEPT again", x.point(61, 2) + x.point(34, 2), 2);
+        }
+        C.sentence("GIVEN: by how much BREADTHS on the floor differ from the BOOK's");
+        for (int number = 0; number < 48; number++) {
+            int point = number / 6 * 8 + number % 6;
+            FairLines x = Checks.withBook(Checks.flat(8, 6, 500));
+            x.move(point, number % 2 == 0 ? 0 : 999);
+            int due = number % 2 == 0 ? 500 : 499;
+            C.answered("the sum", x, x.given(0), due);
+            C.answered("the greatest", x, x.given(1), due);
+            C.answered("how many", x, x.given(2), 1);
         }
     }
 

@@ -1,3 +1,6 @@
+import java.util.ArrayList;
+import java.util.List;
+
 /** The edges of the texts: TOKENS, BOOKS, WAYS and their FAULTS, sentence by sentence. */
 public final class TextEdgesTest {
 
@@ -11,6 +14,8 @@ public final class TextEdgesTest {
         signsInWays();
         numbers();
         asLongAsTheyGo();
+        letterByLetter();
+        strangeAnywhere();
         bookLength();
         rows();
         laterRows();
@@ -160,6 +165,84 @@ public final class TextEdgesTest {
         wayFault(2, "bend stations 0 ^ats 0 1;");
     }
 
+    /** Where # stands, a WORD with one letter changed, left out or put behind it can't stand. */
+    private static void letters(String text, String word, boolean isBook) {
+        List<String> others = new ArrayList<>();
+        for (int i = 0; i < word.length(); i++) {
+            char other = word.charAt(i) == 'z' ? 'a' : (char) (word.charAt(i) + 1);
+            others.add(word.substring(0, i) + other + word.substring(i + 1));
+            if (word.length() > 1) {
+                others.add(word.substring(0, i) + word.substring(i + 1));
+            }
+        }
+        others.add(word + "a");
+        others.add("a" + word);
+        for (String other : others) {
+            if (isBook) {
+                bookFault(2, text.replace("#", "^" + other));
+            } else {
+                wayFault(2, text.replace("#", "^" + other));
+            }
+        }
+    }
+
+    private static void letterByLetter() {
+        C.sentence("PART: row .. or space .. or rise .. or eye .. or step .. or keep .. or order");
+        letters("# 1 2 3;", "row", true);
+        for (String word : SETTINGS) {
+            letters("# 1;", word, true);
+        }
+        letters("row 1 2 3;# 0 0;", "keep", true);
+        letters("# waters;", "order", true);
+        C.sentence("VIEW: stations, or waters, or slants");
+        for (String view : VIEWS) {
+            letters("order #;", view, true);
+            letters("bend # 0 at 0 1;", view, false);
+        }
+        C.sentence("STEP: ease .. or move .. or keep .. or free .. or bend .. or until .. or when");
+        letters("# 1;", "ease", false);
+        letters("# 0 0 0;", "move", false);
+        letters("# 0 0;", "keep", false);
+        letters("# 0 0;", "free", false);
+        letters("# slants 0 at 0 1;", "bend", false);
+        letters("bend slants 0 # 0 1;", "at", false);
+        letters("# 1;end;", "until", false);
+        letters("#;end;", "when", false);
+        letters("when;#;end;", "end", false);
+        C.sentence("a BOOK's WORDS are none of a WAY, and the other way about");
+        for (String word : new String[] {"row 1 2 3;", "space 1;", "order waters;", "end;", "at"}) {
+            wayFault(2, "^" + word);
+        }
+        for (String word : new String[] {"ease 1;", "move 0 0 0;", "free 0 0;", "bend", "until 1;",
+            "when;", "end;", "at", "waters"}) {
+            bookFault(2, "row 1 2 3;^" + word);
+        }
+    }
+
+    /** Behind each blank of a text a TOKEN may begin: what is none is the FAULT there. */
+    private static void strangeAnywhere() {
+        C.sentence("1 no TOKEN begins so (a NUMBER of 4 digits and more: at its first)");
+        String book = "row 1 2 3 ; row 4 5 6 ; keep 1 2 ; space 1 ; order waters slants ; eye 2 ;";
+        String way = "ease 1 ; when ; move 0 0 1 ; until 2 ; keep 0 1 ; end ; end ; free 0 0 ; "
+                + "bend slants 2 at 0 1 2 ;";
+        for (String none : new String[] {"?", "1000", "0000 ;", "A", "\t", "\u0080", "-1"}) {
+            for (int place = 0; place < book.length(); place++) {
+                if (place == 0 || book.charAt(place - 1) == ' ') {
+                    C.bookFault(book.substring(0, place) + none, 1, place);
+                    C.bookFault(book.substring(0, place) + none + book.substring(place), 1, place);
+                }
+            }
+            for (int place = 0; place < way.length(); place++) {
+                if (place == 0 || way.charAt(place - 1) == ' ') {
+                    C.wayFault(way.substring(0, place) + none, 1, place);
+                    C.wayFault(way.substring(0, place) + none + way.substring(place), 1, place);
+                }
+            }
+        }
+        bookTaken(book, 2);
+        wayTaken(way, 7);
+    }
+
     private static void bookLength() {
         C.sentence("a TEXT of at most 600 bytes");
         bookTaken("", 0);
@@ -193,6 +276,26 @@ public final class TextEdgesTest {
         Checks.feed(x, "space 123;row 1 2 3;eye 1;step 3;");
         C.answered("up to a PART", x, x.book(20), 1);
         C.due("EYE is behind it", x.told(4), 5);
+        cuts("row 1 22 333 ;  order waters slants;\nspace 12; ");
+        cuts("when; move 0 0 12 ;bend stations 0 at 0 1;\n  end; ");
+    }
+
+    /** All that is behind the first n bytes is as if it had not been fed. */
+    private static void cuts(String text) {
+        for (int n = 0; n <= text.length(); n++) {
+            for (int turn = 0; turn < 2; turn++) {
+                FairLines cut = new FairLines();
+                FairLines alone = new FairLines();
+                Checks.feed(cut, text);
+                Checks.feed(alone, text.substring(0, n));
+                long got = turn == 0 ? cut.book(n) : cut.way(n);
+                long want = turn == 0 ? alone.book(n) : alone.way(n);
+                String what = n + " bytes of '" + text + "'";
+                C.due(what, got, want);
+                C.due(what + " fault(0)", cut.fault(0), alone.fault(0));
+                C.due(what + " fault(1)", cut.fault(1), alone.fault(1));
+            }
+        }
     }
 
     private static String row(int many) {

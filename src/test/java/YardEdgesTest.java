@@ -304,6 +304,16 @@ public final class YardEdgesTest {
         }
         Checks.fill(x, 0, 2, 0, 0, 0, 0, 0, 0, 0, 0);
         C.answered("all straight", x, x.ribs(0, 8), 560);
+        Checks.book(x, "row 0 5 0;row 0 5 0;row 0 5 0;");
+        Checks.fill(x, 0, 2, 12, 10, 10, 10);
+        C.answered("as many trees as STATIONS", x, x.ribs(0, 3), 2);
+        for (int s = 0; s < 3; s++) {
+            C.answered("rib " + s, x, x.rib(s), s);
+        }
+        C.answered("a tree of its own", x, x.ribs(0, 4), 0);
+        for (int s = 0; s < 3; s++) {
+            C.answered("rib " + s, x, x.rib(s), 1 + s);
+        }
         FairLines one = Checks.withBook("row 0 5 0;");
         Checks.fill(one, 0, 2, 11, 9, 10, 10);
         C.answered("one tree", one, one.ribs(0, 1), 1);
