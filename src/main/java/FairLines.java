@@ -22,6 +22,9 @@ public final class FairLines {
     /** POINTS are numbered 8 times STATION and WATER: rows of so many hold any of them. */
     private static final int POINT_ROOM = 64;
 
+    /** Above any sum of moves, and of differences between crooks. */
+    private static final int BEYOND_ANY = 1 << 30;
+
     private int status;
     private long top;
     private long bottom = 1;
@@ -1173,7 +1176,7 @@ public final class FairLines {
 
         /** By how much BEND differs from that of the PLACE ahead. */
         private int jumpAt(int point, int stride) {
-            if (stride < 0 || point - 2 * stride < 0 || point + stride >= floor.length) {
+            if (stride < 0 || point < 2 * stride || point >= floor.length - stride) {
                 return 0;
             }
             return floor[point + stride] - floor[point - 2 * stride]
@@ -1186,7 +1189,7 @@ public final class FairLines {
 
         /** Moves a POINT towards its WISH: whether it did. */
         boolean nudge(int point, int stride) {
-            if (stride < 0 || point - 2 * stride < 0 || point + 2 * stride >= floor.length) {
+            if (stride < 0 || point < 2 * stride || point >= floor.length - 2 * stride) {
                 return false;
             }
             int near = floor[point - stride] + floor[point + stride];
@@ -1655,6 +1658,7 @@ public final class FairLines {
 
         static final int MOST_BYTES = 300;
         private static final int MOST_DEPTH = 3;
+        private static final int TOO_DEEP = 5;
 
         private final Tape tape;
         final Way way = new Way();
@@ -1694,7 +1698,7 @@ public final class FairLines {
                 return tape.fail(Tape.MISPLACED);
             }
             if (depth >= MOST_DEPTH && (kind == Way.UNTIL || kind == Way.WHEN)) {
-                return tape.fail(Tape.AGAIN);
+                return tape.fail(TOO_DEEP);
             }
             if (way.steps >= Way.MOST_STEPS) {
                 return tape.fail(Tape.BEYOND);
@@ -2179,10 +2183,10 @@ public final class FairLines {
                 return false;
             }
             reach = by;
-            bestSum = Integer.MAX_VALUE;
-            bestMoved = Integer.MAX_VALUE;
+            bestSum = BEYOND_ANY;
+            bestMoved = BEYOND_ANY;
             tryFrom(sheet, 0, 0, 0);
-            if (bestSum == Integer.MAX_VALUE) {
+            if (bestSum == BEYOND_ANY) {
                 return false;
             }
             toldMany = many;
@@ -2324,7 +2328,7 @@ public final class FairLines {
                 return 0;
             }
             int crook = sheet.crookOf(station);
-            int least = Integer.MAX_VALUE;
+            int least = BEYOND_ANY;
             for (int tree = 0; tree < many; tree++) {
                 if ((used >> tree & 1) == 0) {
                     least = Math.min(least, costWith(used, tree, crook));
